@@ -987,7 +987,7 @@ public final class KeyDrift {
         // A chord is told by its first strings: they come again all the way up, so that
         // the order of chords is the order of what is told.
         int chordNumber(int k) {
-            int step = ownStrings();
+            int step = Math.max(1, ownStrings());
             int chord = 0;
             for (int from = 0; from < hall.keys; from += step) {
                 chord |= k << from;
@@ -997,7 +997,7 @@ public final class KeyDrift {
 
         // How many strings from 0 on are in or out of a chord by themselves.
         private int ownStrings() {
-            return Math.max(1, (int) divisorOfBoth(hall.drift, hall.keys));
+            return (int) divisorOfBoth(hall.drift, hall.keys);
         }
 
         int kindsHeard(int pupil, int piece, int[] told, int from) {
