@@ -48,6 +48,9 @@ public final class AskedTest {
         asked(x, 3, 1, 3 - (12 - 100), 23, 20, 13, 10);
         asked(x, 4, 0, 2 * (3 - 100), 14, 13, 10);
         asked(x, 4, 1, 4 - 2 * (3 - 100), 23, 20, 14, 13, 10);
+        KeyDrift ahead = Check.hall("k9,2,3;p0,1;p0,1;p0,1;v7,5;");
+        asked(ahead, 3, 0, -(5 + 2 * (3 + 7)), 12, 11, 10, 24, 21, 20);
+        asked(ahead, 3, 1, 2 * (3 + 7), 24, 21, 20);
         x.nights(1);
         x.learn(0);
         asked(x, 0, 1, 0 + 5, 21, 20);

@@ -113,6 +113,8 @@ public final class ForetoldTest {
         taught(x, 1 << 22, 0, 0);
         KeyDrift alike = Check.hall("k3,0,1;p0,1;p0,1;p0,1;");
         taught(alike, 16777215, 1, 1);
+        KeyDrift two = Check.hall("k3,1,1;p1,1;p1,1;");
+        taught(two, 1, 0, 0);
         KeyDrift empty = Check.hall("k3,0,1;");
         taught(empty, 0, 0, 0);
         taught(empty, 1, NONE, NONE);
@@ -140,6 +142,11 @@ public final class ForetoldTest {
         for (int k = 0; k < 4; k++) {
             Check.due("the first one", every.programme(6, k), k);
         }
+        KeyDrift later = Check.hall("k7,1,0;ta;p1,1;p2,1;p2,1;");
+        Check.due("nights 1, 2", later.programme(3, -1), 2);
+        Check.due("nights 1", later.programme(2, -1), 1);
+        Check.due("not now", later.programme(1, -1), 0);
+        Check.due("behind one", later.programme(3, 0), 1);
         KeyDrift none = Check.hall("k7,0,0;");
         Check.due("no pieces", none.programme(1, -1), 1);
         Check.due("no pieces, the first", none.programme(1, 0), NONE);
@@ -211,6 +218,9 @@ public final class ForetoldTest {
         KeyDrift still = Check.hall("k12,0,5;");
         Check.due("once", still.tunings(60, 4), 1);
         Check.due("no need", still.tunings(60, 5), 0);
+        Check.due("each, at 0", x.tunings(60, 0), 60);
+        Check.due("5, tuned, 5, tuned", x.tunings(4, 5), 2);
+        Check.due("none at 0", Check.hall("k12,0,0;").tunings(60, 0), 0);
         Check.due("n 0", x.tunings(0, 0), BAD);
         Check.due("n 61", x.tunings(61, 0), BAD);
         Check.due("t -1", x.tunings(1, -1), BAD);
@@ -225,6 +235,7 @@ public final class ForetoldTest {
         Check.due("4", x.other(1, 0), 4);
         Check.due("6", x.other(1, 2), 6);
         Check.due("never", x.other(2, 4), NONE);
+        Check.due("it stands still: 3 and 2 d is 0", x.other(0, 0), 2);
         Check.due("drift 7", x.other(7, 0), BAD);
         Check.due("shift 7", x.other(0, 7), BAD);
         Check.due("drift -1", x.other(-1, 0), BAD);
@@ -274,6 +285,10 @@ public final class ForetoldTest {
         Check.due("4, right", x.drawn(4, 1, 1), 1);
         Check.due("5", x.drawn(5, 1, 0), 5);
         Check.due("5, right", x.drawn(5, 1, 1), 2);
+        KeyDrift twins = Check.hall("k7,2,3;p5,1;p5,1;");
+        Check.due("twins", twins.drawn(5, 1, 1), 2);
+        KeyDrift single = Check.hall("k7,2,3;p5,1;");
+        Check.due("a single one", single.drawn(5, 1, 1), 2);
         Check.due("n -1", x.drawn(-1, 1, 0), BAD);
         Check.due("n 61", x.drawn(61, 1, 0), BAD);
         Check.due("seed 0", x.drawn(1, 0, 0), BAD);

@@ -65,6 +65,10 @@ public final class PlaysTest {
         Check.due("six above is not less than 6", x.plays(4, 1, 0), 0);
         x.nights(3);
         Check.due("nights do not move hands", x.plays(1, 0, 1), 2);
+        KeyDrift shorter = Check.hall("k7,0,0;tgggggggg;");
+        Check.tell(shorter, "k7,0,0;tb;p0,1;");
+        Check.due("what was longer before, least", shorter.plays(0, 0, 1), 1);
+        Check.due("what was longer before, greatest", shorter.plays(0, 0, 2), 1);
         Check.due("what 3", x.plays(0, 0, 3), BAD);
         Check.due("what -1", x.plays(0, 0, -1), BAD);
         Check.due("pupil 5", x.plays(5, 0, 0), BAD);
