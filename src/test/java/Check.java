@@ -4,6 +4,8 @@ final class Check {
     /** All five SORTS, three PIECES; SHIFT 3. */
     static final String FIVE = "k7,2,3;tabc;tgfa;tdddd;p3,4;v1,7;s5,2;c4,12;m2,3;";
 
+    /** What is tested now, for those who read what a test prints. */
+    static String sentence = "";
     private static int wrong = 0;
 
     private Check() {
@@ -12,7 +14,8 @@ final class Check {
     static void due(String what, long got, long want) {
         if (got != want) {
             wrong++;
-            System.out.println(what + " answered " + got + ", due is " + want);
+            String heading = sentence.isEmpty() ? "" : "[" + sentence + "] ";
+            System.out.println(heading + what + " answered " + got + ", due is " + want);
         }
     }
 

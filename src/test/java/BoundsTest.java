@@ -1,0 +1,13 @@
+/** Each sentence of the document that names a boundary, by a test of its own. */
+public final class BoundsTest {
+    public static void main(String[] args) {
+        BoundsOfTerms.all();
+        BoundsOfRows.all();
+        BoundsOfTexts.all();
+        BoundsOfDeeds.all();
+        BoundsOfForetold.all();
+        BoundsOfAsked.all();
+        Document.endOfTests();
+        Check.end();
+    }
+}
