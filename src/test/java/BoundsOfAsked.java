@@ -57,8 +57,8 @@ final class BoundsOfAsked {
     }
 
     private static void taken() {
-        Document.says("Terms 3", "KINDS of PUPILS: 0 PUPIL; 1 PLAYER, a PUPIL; 2 AHEAD, a PLAYER; 3 SHAMED, a PLAYER; "
-            + "4 CARRIER, a PUPIL; 5 CAT, a CARRIER.");
+        Document.says("Terms 3", "KINDS of PUPILS: 0 PUPIL; 1 PLAYER, a PUPIL; 2 AHEAD, a PLAYER; 3 SHAMED, a "
+            + "PLAYER; 4 CARRIER, a PUPIL; 5 CAT, a CARRIER.");
         Document.says("Promise 35", "A PUPIL is taken as one of a KIND (0 .. 5): its number.");
         KeyDrift x = Check.hall("k2,0,0;m0,1;c0,1;s0,1;v0,1;p0,1;");
         for (int one = 0; one < 5; one++) {
@@ -108,9 +108,10 @@ final class BoundsOfAsked {
     }
 
     private static void sizes() {
-        Document.says("Terms 4", "ASKS of PUPILS, by BODIES, each of which leaves its number in THE TRACE as it begins (the first 16): "
-            + "0 SIZE: 10 lent to all PUPILS: SPAN. 11 of PLAYERS: what 10 gives, and MARK. 12 of those AHEAD: 0 less what 11 gives. "
-            + "13 of CARRIERS: what 10 gives, less 100. 14 of CATS: what 13 gives, twice.");
+        Document.says("Terms 4", "ASKS of PUPILS, by BODIES, each of which leaves its number in THE TRACE as it "
+            + "begins (the first 16): 0 SIZE: 10 lent to all PUPILS: SPAN. 11 of PLAYERS: what 10 gives, and "
+            + "MARK. 12 of those AHEAD: 0 less what 11 gives. 13 of CARRIERS: what 10 gives, less 100. 14 of "
+            + "CATS: what 13 gives, twice.");
         for (int end = 0; end < 2; end++) {
             int span = end == 0 ? 1 : 12;
             int learnt = end == 0 ? 0 : 11;
@@ -125,9 +126,9 @@ final class BoundsOfAsked {
     }
 
     private static void marks() {
-        Document.says("Terms 4", "1 MARK: 20 lent to all PUPILS: the number. 21 of PLAYERS: what 20 gives, and LEARNT. "
-            + "22 of SHAMED ones: what 21 gives, less 1000. 23 of CARRIERS: what 20 gives, less SIZE. 24 of those AHEAD: "
-            + "what 21 gives, twice.");
+        Document.says("Terms 4", "1 MARK: 20 lent to all PUPILS: the number. 21 of PLAYERS: what 20 gives, and "
+            + "LEARNT. 22 of SHAMED ones: what 21 gives, less 1000. 23 of CARRIERS: what 20 gives, less SIZE. 24 "
+            + "of those AHEAD: what 21 gives, twice.");
         for (int end = 0; end < 2; end++) {
             int span = end == 0 ? 1 : 12;
             int learnt = end == 0 ? 0 : 11;
@@ -142,8 +143,9 @@ final class BoundsOfAsked {
     }
 
     private static void bodiesBegin() {
-        Document.says("Terms 4", "(Of an ask the BODY told for the KIND begins, else that of the nearest KIND that it is, too, "
-            + "else the one that is lent; SIZE, MARK within others are asked of the same PUPIL anew.)");
+        Document.says("Terms 4", "(Of an ask the BODY told for the KIND begins, else that of the nearest KIND "
+            + "that it is, too, else the one that is lent; SIZE, MARK within others are asked of the same PUPIL "
+            + "anew.)");
         KeyDrift x = Check.hall("k12,0,5;p1,2;v3,4;s5,6;c7,8;m9,10;");
         int[] sizeBegins = {11, 12, 11, 13, 14};
         int[] markBegins = {21, 24, 22, 23, 23};
@@ -208,8 +210,8 @@ final class BoundsOfAsked {
     }
 
     private static void counts() {
-        Document.says("Promise 38", "How many: 0 ROWS, 1 KEYS, 2 DRIFT, 3 SHIFT, 4 PIECES, 5 PUPILS, 6 NIGHT, 7 ACTS that can be undone, "
-            + "8 bytes on the tape.");
+        Document.says("Promise 38", "How many: 0 ROWS, 1 KEYS, 2 DRIFT, 3 SHIFT, 4 PIECES, 5 PUPILS, 6 NIGHT, 7 "
+            + "ACTS that can be undone, 8 bytes on the tape.");
         KeyDrift x = Twins.told();
         int[] wanted = {4, 7, 2, 0, 3, 5, 20, 24, 7};
         for (int what = 0; what < wanted.length; what++) {

@@ -92,9 +92,9 @@ final class BoundsOfDeeds {
     }
 
     private static void biases() {
-        Document.says("Terms 2", "A pupil plays by a BIAS: a player LEARNT; one who plays ahead LEARNT and 2 times DRIFT; "
-            + "a shamed one LEARNT less 2; a carrier 0 less LEARNT; a cat as a carrier, and 1 more. For a string of a piece "
-            + "it strikes that less its BIAS.");
+        Document.says("Terms 2", "A pupil plays by a BIAS: a player LEARNT; one who plays ahead LEARNT and 2 "
+            + "times DRIFT; a shamed one LEARNT less 2; a carrier 0 less LEARNT; a cat as a carrier, and 1 more. "
+            + "For a string of a piece it strikes that less its BIAS.");
         for (int keys = 2; keys <= 12; keys++) {
             for (int drift = 0; drift < keys; drift++) {
                 for (int learnt = 0; learnt < keys; learnt++) {
@@ -129,8 +129,8 @@ final class BoundsOfDeeds {
     }
 
     private static void reaches() {
-        Document.says("Terms 2", "It REACHES a piece, if of the keys it strikes (as numbers from 0 on) the greatest is less "
-            + "than SPAN above the least.");
+        Document.says("Terms 2", "It REACHES a piece, if of the keys it strikes (as numbers from 0 on) the "
+            + "greatest is less than SPAN above the least.");
         for (int span = 1; span <= 12; span++) {
             for (int string = 0; string < 12; string++) {
                 KeyDrift x = Check.hall("k12,0,0;ta" + (char) ('a' + string) + ";p0," + span + ";");
@@ -224,8 +224,8 @@ final class BoundsOfDeeds {
 
     private static void latestFirst() {
         Document.says("Terms 2", "each can be undone, the latest first)");
-        Document.says("Terms 2", "a NIGHT (SHIFT is DRIFT more); thunder (SHIFT is that more); tuning (SHIFT is 0); "
-            + "a lesson (LEARNT of a pupil is SHIFT).");
+        Document.says("Terms 2", "a NIGHT (SHIFT is DRIFT more); thunder (SHIFT is that more); tuning (SHIFT is "
+            + "0); a lesson (LEARNT of a pupil is SHIFT).");
         KeyDrift x = Check.hall("k7,5,6;c3,1;c1,1;");
         Check.due("a night", x.nights(1), 4);
         Check.due("thunder", x.thunder(11), 1);
@@ -400,7 +400,8 @@ final class BoundsOfDeeds {
     }
 
     private static void piece() {
-        Document.says("Promise 14", "Of a PIECE: the k-th string (0 on), how many (k = -1). NONE: no such one. BAD: k below -1.");
+        Document.says("Promise 14", "Of a PIECE: the k-th string (0 on), how many (k = -1). NONE: no such one. "
+            + "BAD: k below -1.");
         KeyDrift x = Check.hall("k12,0,0;ta;tlkjihgfe;");
         Check.due("how many, 1", x.piece(0, -1), 1);
         Check.due("the only one", x.piece(0, 0), 0);
@@ -447,8 +448,8 @@ final class BoundsOfDeeds {
     }
 
     private static void plays() {
-        Document.says("Promise 16", "Of a pupil, a PIECE: 0 whether it REACHES it (1, 0), 1 the least key it strikes, "
-            + "2 the greatest. BAD.");
+        Document.says("Promise 16", "Of a pupil, a PIECE: 0 whether it REACHES it (1, 0), 1 the least key it "
+            + "strikes, 2 the greatest. BAD.");
         KeyDrift x = Check.hall("k12,0,0;tb;tal;tahahahah;p0,12;p1,7;p2,8;p11,11;p5,1;");
         int[][] least = {{1, 0, 0}, {0, 10, 6}, {11, 9, 5}, {2, 0, 1}, {8, 6, 2}};
         int[][] greatest = {{1, 11, 7}, {0, 11, 11}, {11, 10, 10}, {2, 1, 8}, {8, 7, 7}};

@@ -32,6 +32,7 @@ final class BoundsOfForetold {
         programmeNights();
         programmeWays();
         programmeFirst();
+        programmeAnew();
         programmeRefused();
         chords();
         chordsRefused();
@@ -86,7 +87,8 @@ final class BoundsOfForetold {
     }
 
     private static void soon() {
-        Document.says("Terms 3", "SOON: behind how many of the next NIGHTS (0: now; 60 at most) a pupil is RIGHT first;");
+        Document.says("Terms 3", "SOON: behind how many of the next NIGHTS (0: now; 60 at most) a pupil is RIGHT "
+            + "first;");
         Document.says("Promise 19", "SOON; NONE.");
         for (int keys = 2; keys <= 12; keys++) {
             for (int drift = 0; drift < keys; drift++) {
@@ -169,7 +171,8 @@ final class BoundsOfForetold {
     }
 
     private static void nightsOf() {
-        Document.says("Terms 3", "NIGHTS of a pupil: those of the next n (1 to 24; 0: now, bit 0) on which it is RIGHT (bits).");
+        Document.says("Terms 3", "NIGHTS of a pupil: those of the next n (1 to 24; 0: now, bit 0) on which it is "
+            + "RIGHT (bits).");
         Document.says("Promise 22", "NIGHTS of a pupil.");
         KeyDrift still = Check.hall("k2,0,1;p1,1;p0,1;");
         KeyDrift all = Check.hall("k12,11,0;p0,1;p11,1;p1,1;");
@@ -194,8 +197,8 @@ final class BoundsOfForetold {
     }
 
     private static void struckTold() {
-        Document.says("Terms 3", "STRUCK: a row tells n (1 to 12) keys and strings by turns: SHIFTS (bits) by which each key "
-            + "told gives the string told;");
+        Document.says("Terms 3", "STRUCK: a row tells n (1 to 12) keys and strings by turns: SHIFTS (bits) by "
+            + "which each key told gives the string told;");
         for (int keys = 2; keys <= 12; keys++) {
             KeyDrift x = Check.hall("k" + keys + ",0,0;");
             x.row(0, 0, 2);
@@ -249,8 +252,8 @@ final class BoundsOfForetold {
     }
 
     private static void struckRefused() {
-        Document.says("Promise 23", "STRUCK, 2 n ITEMS of a ROW from i on. BAD: ROW, n, lies; STATE: no HALL (ahead of BAD); "
-            + "NULL; PLACE.");
+        Document.says("Promise 23", "STRUCK, 2 n ITEMS of a ROW from i on. BAD: ROW, n, lies; STATE: no HALL "
+            + "(ahead of BAD); NULL; PLACE.");
         for (int row : edges(0, 7)) {
             Twins.refused(TOLD, "struck of row " + row, BAD, x -> x.struck(row, 0, 1, 0));
             Twins.refused(TOLD, "struck of row " + row + ", PLACE too", BAD, x -> x.struck(row, -1, 1, 0));
@@ -307,7 +310,8 @@ final class BoundsOfForetold {
     }
 
     private static void lessonsFewest() {
-        Document.says("Terms 3", "the fewest pupils to have a lesson now, so that on each of these somebody is RIGHT: how many;");
+        Document.says("Terms 3", "the fewest pupils to have a lesson now, so that on each of these somebody is "
+            + "RIGHT: how many;");
         // All are right behind one NIGHT; behind a lesson behind 0, 2, 10, 6, 7.
         KeyDrift x = Check.hall("k12,1,3;p4,1;v2,1;s6,1;c8,1;m9,1;");
         taught(x, 0, 0, 0);
@@ -371,8 +375,8 @@ final class BoundsOfForetold {
     }
 
     private static void programmeWays() {
-        Document.says("Terms 3", "ways to give each PIECE a NIGHT of its own of these on which some pupil is RIGHT who REACHES it: "
-            + "how many;");
+        Document.says("Terms 3", "ways to give each PIECE a NIGHT of its own of these on which some pupil is "
+            + "RIGHT who REACHES it: how many;");
         String text = "k12,0,0;";
         int ways = 1;
         for (int pieces = 0; pieces <= 4; pieces++) {
@@ -425,6 +429,26 @@ final class BoundsOfForetold {
         Check.due("and the second now", swapped.programme(3, 1), 0);
     }
 
+    /** What was foretold before, of another HALL or another SHIFT, is not what is foretold now. */
+    private static void programmeAnew() {
+        Document.says("Promise 25", "PROGRAMME: how many (k = -1), the k-th NIGHT (0 on; NONE).");
+        for (int pieces = 0; pieces < 4; pieces++) {
+            KeyDrift x = Check.hall("k12,0,0;ta;ta;ta;ta;p0,1;");
+            Check.due("four pieces", x.programme(6, 3), 3);
+            Check.due("fewer", Check.tell(x, "k12,0,0;" + "ta;".repeat(pieces) + "p0,1;"), 1);
+            for (int k = 0; k < 4; k++) {
+                Check.due("piece " + k + " of " + pieces, x.programme(6, k), k < pieces ? k : NONE);
+            }
+        }
+        KeyDrift x = Check.hall("k12,0,0;ta;p0,1;");
+        Check.due("right each night", x.programme(6, -1), 6);
+        x.thunder(1);
+        Check.due("right no night", x.programme(6, -1), 0);
+        Check.due("no night", x.programme(6, 0), NONE);
+        x.undo();
+        Check.due("right each night", x.programme(1, 0), 0);
+    }
+
     private static void programmeRefused() {
         Document.says("Promise 25", "BAD: k not -1 to 3, too; STATE: no HALL (ahead of BAD).");
         for (int n : edges(1, 6)) {
@@ -454,8 +478,8 @@ final class BoundsOfForetold {
     }
 
     private static void chords() {
-        Document.says("Terms 3", "CHORDS: sets of strings that are the same when each is DRIFT more: how many; the k-th (as bits, "
-            + "the least first); NONE.");
+        Document.says("Terms 3", "CHORDS: sets of strings that are the same when each is DRIFT more: how many; "
+            + "the k-th (as bits, the least first); NONE.");
         Document.says("Promise 26", "CHORDS: how many (k = -1), the k-th (0 on; NONE).");
         for (int keys = 2; keys <= 12; keys++) {
             for (int drift = 0; drift < keys; drift++) {
@@ -491,8 +515,8 @@ final class BoundsOfForetold {
     }
 
     private static void whoKinds() {
-        Document.says("Terms 3", "WHO: a row tells strings heard of a piece, as many as it has: KINDS (bits 1 to 5) by which a pupil "
-            + "would give them now.");
+        Document.says("Terms 3", "WHO: a row tells strings heard of a piece, as many as it has: KINDS (bits 1 to "
+            + "5) by which a pupil would give them now.");
         for (int keys = 2; keys <= 12; keys++) {
             for (int learnt = 0; learnt < keys; learnt++) {
                 KeyDrift x = Check.hall("k" + keys + ",1,1;tab;m" + learnt + ",1;");
@@ -523,7 +547,8 @@ final class BoundsOfForetold {
     }
 
     private static void whoRefused() {
-        Document.says("Promise 27", "WHO, as many ITEMS as the PIECE has of a ROW from i on. BAD: PUPIL, PIECE, ROW; NULL; PLACE.");
+        Document.says("Promise 27", "WHO, as many ITEMS as the PIECE has of a ROW from i on. BAD: PUPIL, PIECE, "
+            + "ROW; NULL; PLACE.");
         for (int one : edges(0, 4)) {
             Twins.refused(TOLD, "who of " + one, BAD, x -> x.who(one, 0, 4, 0));
             Twins.refused(TOLD, "who of " + one + ", missing too", BAD, x -> x.who(one, 0, 3, 0));
@@ -560,8 +585,8 @@ final class BoundsOfForetold {
     }
 
     private static void tuningsBounds() {
-        Document.says("Terms 3", "(1 to 60; each behind a NIGHT, one at most), so that SHIFT is no more than t (0 to 11) behind each "
-            + "of these and what is tuned behind it.");
+        Document.says("Terms 3", "(1 to 60; each behind a NIGHT, one at most), so that SHIFT is no more than t "
+            + "(0 to 11) behind each of these and what is tuned behind it.");
         KeyDrift x = Check.hall("k12,11,0;");
         Check.due("11 is no more than 11", x.tunings(1, 11), 0);
         Check.due("11 is more than 10", x.tunings(1, 10), 1);
@@ -615,8 +640,8 @@ final class BoundsOfForetold {
     }
 
     private static void other() {
-        Document.says("Terms 3", "OTHER piano by a DRIFT, a SHIFT of its own: behind how many NIGHTS (0: now; 100 at most) both have "
-            + "one SHIFT; NONE.");
+        Document.says("Terms 3", "OTHER piano by a DRIFT, a SHIFT of its own: behind how many NIGHTS (0: now; "
+            + "100 at most) both have one SHIFT; NONE.");
         Document.says("Promise 29", "OTHER (DRIFT, SHIFT below KEYS); NONE.");
         for (int keys : new int[] {2, 3, 8, 12}) {
             for (int drift = 0; drift < keys; drift++) {
@@ -685,7 +710,8 @@ final class BoundsOfForetold {
     }
 
     private static void thunderFractions() {
-        Document.says("Terms 3", "in each the SHIFT is 1 more besides, apart: how likely a pupil is RIGHT behind them: a fraction.");
+        Document.says("Terms 3", "in each the SHIFT is 1 more besides, apart: how likely a pupil is RIGHT behind "
+            + "them: a fraction.");
         for (int keys : new int[] {2, 3, 5, 12}) {
             for (int drift = 0; drift < keys; drift += 1 + keys / 4) {
                 for (int learnt = 0; learnt < keys; learnt++) {
@@ -735,11 +761,13 @@ final class BoundsOfForetold {
     }
 
     private static void drawnBySeed() {
-        Document.says("Terms 3", "in each X becomes the rest of (X times 16807) by 2147483647; if X by 5 leaves 0, there is thunder of "
-            + "the rest of X by KEYS; then the NIGHT: SHIFT then; on how many of these somebody is RIGHT behind it.");
+        Document.says("Terms 3", "in each X becomes the rest of (X times 16807) by 2147483647; if X by 5 leaves "
+            + "0, there is thunder of the rest of X by KEYS; then the NIGHT: SHIFT then; on how many of these "
+            + "somebody is RIGHT behind it.");
         int[] seeds = {1, 2, 5, 10, 123, 77777, 500000, 999998, 999999};
         for (int keys = 2; keys <= 12; keys++) {
-            KeyDrift x = Check.hall("k" + keys + "," + (keys - 1) + ",1;p0,1;c1,1;p0,1;");
+            KeyDrift x = Check.hall("k" + keys + "," + (keys - 1) + ",1;p0,1;c1,1;");
+            KeyDrift twice = Check.hall("k" + keys + "," + (keys - 1) + ",1;p0,1;c1,1;p0,1;c1,1;");
             for (int seed : seeds) {
                 BigInteger drawn = BigInteger.valueOf(seed);
                 int shift = 1;
@@ -755,6 +783,7 @@ final class BoundsOfForetold {
                 }
                 Check.due("SHIFT", x.drawn(asked, seed, 0), shift);
                 Check.due("how many", x.drawn(asked, seed, 1), right);
+                Check.due("two at once are somebody once", twice.drawn(asked, seed, 1), right);
             }
         }
     }

@@ -318,8 +318,8 @@ final class BoundsOfRows {
     }
 
     private static void statusOfLatest() {
-        Document.says("Promise 39", "Of the latest call with a ROW, or as(), that was not BAD, STATE, FULL: the number of "
-            + "its FINDING; 0: it had none, or there was none.");
+        Document.says("Promise 39", "Of the latest call with a ROW, or as(), that was not BAD, STATE, FULL: the "
+            + "number of its FINDING; 0: it had none, or there was none.");
         Check.due("at first", new KeyDrift().status(), 0);
         Twins.Call[] plain = {x -> x.row(3, 0, 1), x -> x.set(0, 0, 0), x -> x.copy(0, 0, 0, 0, 0), x -> x.drop(0),
             x -> x.struck(0, 0, 1, 0), x -> x.who(0, 0, 4, 0), x -> x.as(0, 0)};

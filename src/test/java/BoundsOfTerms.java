@@ -21,7 +21,8 @@ final class BoundsOfTerms {
     }
 
     private static void calls() {
-        Document.says("What it is", "An object is used for at most 512 calls after it has been made; what later calls answer is free.");
+        Document.says("What it is", "An object is used for at most 512 calls after it has been made; what later "
+            + "calls answer is free.");
         KeyDrift x = new KeyDrift();
         int calls = 0;
         while (calls + 9 <= 512) {
@@ -41,8 +42,8 @@ final class BoundsOfTerms {
     }
 
     private static void fractions() {
-        Document.says("Terms", "Numbers go from 0 on. All that is divided is cut towards 0, but fractions, told as two numbers in lowest "
-            + "terms (0 is 0 by 1).");
+        Document.says("Terms", "Numbers go from 0 on. All that is divided is cut towards 0, but fractions, told "
+            + "as two numbers in lowest terms (0 is 0 by 1).");
         KeyDrift x = Check.hall("k7,0,3;p3,1;p4,1;");
         long[][] due = {{9, 10}, {4, 5}, {7, 10}, {3, 5}, {1, 2}, {2, 5}, {3, 10}, {1, 5}, {1, 10}};
         for (int p = 1; p <= 9; p++) {
@@ -153,8 +154,8 @@ final class BoundsOfTerms {
     }
 
     private static void numbersOfFindings() {
-        Document.says("Terms", "-1000010 less 1 NULL (a ROW that is missing), 2 PLACE (no such place of a ROW), 3 KIND (a PUPIL that is not "
-            + "that), 4 SIZE (fewer than none), 5 STORE (ROWS of two LANES).");
+        Document.says("Terms", "-1000010 less 1 NULL (a ROW that is missing), 2 PLACE (no such place of a ROW), "
+            + "3 KIND (a PUPIL that is not that), 4 SIZE (fewer than none), 5 STORE (ROWS of two LANES).");
         KeyDrift x = Check.hall(Check.FIVE);
         Check.due("NULL", x.drop(0), -1000011);
         Check.due("its number", x.status(), 1);

@@ -93,8 +93,8 @@ final class BoundsOfTexts {
 
     /** Each other byte is no TOKEN wherever it stands: between any two, and in place of any. */
     private static void lettersOfTokens() {
-        Document.says("Terms 1", "TOKENS: letters a to z (each by itself), NUMBERS (figures, 2 at most), "
-            + "SIGNS , and ; nothing else.");
+        Document.says("Terms 1", "TOKENS: letters a to z (each by itself), NUMBERS (figures, 2 at most), SIGNS , "
+            + "and ; nothing else.");
         String text = "k7,2,3;tag;p3,4;m0,1;";
         reads(text, 1, 2);
         for (int letter = 0; letter <= 255; letter++) {
@@ -258,8 +258,8 @@ final class BoundsOfTexts {
     }
 
     private static void sortsOfPupil() {
-        Document.says("Terms 1", "pupil: SORT LEARNT , SPAN ; (SORT: p a player, v one who plays ahead, s a shamed one, "
-            + "c a carrier, m a cat;");
+        Document.says("Terms 1", "pupil: SORT LEARNT , SPAN ; (SORT: p a player, v one who plays ahead, s a "
+            + "shamed one, c a carrier, m a cat;");
         for (char letter = 'a'; letter <= 'z'; letter++) {
             int kind = SORTS.indexOf(letter) + 1;
             KeyDrift x = new KeyDrift();
@@ -331,7 +331,8 @@ final class BoundsOfTexts {
         for (int what = 0; what < wanted.length; what++) {
             Check.due("count " + what, x.count(what), wanted[what]);
         }
-        int[][] strings = {{0, 1, 2, 3, 4, 5, 6, 7}, {8, 9, 10, 11, 0, 1, 2, 3}, {11, 11, 11, 11, 11, 11, 11, 11}, {0, 0, 0, 0, 0, 0, 0, 0}};
+        int[][] strings = {{0, 1, 2, 3, 4, 5, 6, 7}, {8, 9, 10, 11, 0, 1, 2, 3}, {11, 11, 11, 11, 11, 11, 11, 11},
+            {0, 0, 0, 0, 0, 0, 0, 0}};
         for (int piece = 0; piece < 4; piece++) {
             Check.due("length", x.piece(piece, -1), 8);
             for (int k = 0; k < 8; k++) {
@@ -352,8 +353,8 @@ final class BoundsOfTexts {
     }
 
     private static void hallInPlace() {
-        Document.says("Terms 1", "A HALL that is read stands in place of the one before (none at first): NIGHT 0; "
-            + "no ACT can be undone.");
+        Document.says("Terms 1", "A HALL that is read stands in place of the one before (none at first): NIGHT "
+            + "0; no ACT can be undone.");
         KeyDrift x = Check.hall(LONGEST);
         x.nights(24);
         x.learn(0);

@@ -28,6 +28,9 @@ final class Document {
     /** From here on what is tested is this sentence of a part of the document. */
     static void says(String part, String sentence) {
         Check.sentence = part + ": " + sentence;
+        if (!Files.exists(TEXT)) {
+            return;
+        }
         StringBuilder text = parts().get(part);
         Check.holds("the document has a part " + part, text != null);
         if (text == null) {
@@ -44,6 +47,10 @@ final class Document {
     /** Fails for each part of the document with a boundary that no test has named. */
     static void endOfTests() {
         Check.sentence = "";
+        if (!Files.exists(TEXT)) {
+            System.out.println("there is no " + TEXT + ": the tests ran, but their sentences are not compared with it");
+            return;
+        }
         for (Map.Entry<String, StringBuilder> part : parts().entrySet()) {
             for (String rest : part.getValue().toString().split("\n")) {
                 Matcher boundary = BOUNDARY.matcher(rest);

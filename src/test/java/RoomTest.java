@@ -1,11 +1,12 @@
 import com.sun.management.ThreadMXBean;
 import java.lang.management.ManagementFactory;
 
-/** All calls live in one room: an object takes little of it, and no call takes more. */
+/** All calls of a run live in one room: an object with all its calls takes a small part of it. */
 public final class RoomTest {
-    private static final int ROUNDS = 2000, MOST_BYTES_EACH = 8192;
-    /** The machine may take a little for itself while it measures. */
-    private static final int SLACK = 4096;
+    /** Each round has some hundred calls, so that an object is used for five of them. */
+    private static final int ROUNDS = 2000, ROUNDS_EACH = 5;
+    /** Of 7.3 million fields and elements, four bytes each, not more than a hundredth part. */
+    private static final long MOST_BYTES_EACH = 7300000L * 4 / 100;
 
     public static void main(String[] args) {
         if (!(ManagementFactory.getThreadMXBean() instanceof ThreadMXBean meter)
@@ -22,13 +23,12 @@ public final class RoomTest {
         for (int round = 0; round < ROUNDS; round++) {
             sum += everyCall(x, round);
         }
-        long taken = meter.getCurrentThreadAllocatedBytes() - before;
-        Check.holds("calls take no room, but took " + taken, taken <= SLACK);
+        long byCalls = (meter.getCurrentThreadAllocatedBytes() - before) / ROUNDS * ROUNDS_EACH;
         before = meter.getCurrentThreadAllocatedBytes();
         x = new KeyDrift();
-        taken = meter.getCurrentThreadAllocatedBytes() - before;
-        Check.holds("an object takes little room, but took " + taken, taken <= MOST_BYTES_EACH);
-        System.out.println("the sum of all answers is " + sum + ", an object takes " + taken + " bytes");
+        long byObject = meter.getCurrentThreadAllocatedBytes() - before;
+        System.out.println("an object takes " + byObject + " bytes, its calls " + byCalls + "; all answers sum up to " + sum);
+        Check.holds("an object and its calls take little room", byObject + byCalls <= MOST_BYTES_EACH);
         Check.end();
     }
 
