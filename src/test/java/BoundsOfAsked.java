@@ -20,6 +20,7 @@ final class BoundsOfAsked {
         sizes();
         marks();
         bodiesBegin();
+        askedByKind();
         askRefused();
         traceEmptyAhead();
         traceEnds();
@@ -160,6 +161,29 @@ final class BoundsOfAsked {
         asked(x, 1, 0, -(4 + 2 * (1 + 5)), 12, 11, 10, 24, 21, 20);
         x.undo();
         asked(x, 1, 0, -(4 + 2 * (1 + 3)), 12, 11, 10, 24, 21, 20);
+    }
+
+    /** Pupils that differ by nothing but their KIND are asked by it, wherever they stand. */
+    private static void askedByKind() {
+        Document.says("Terms 3", "By this it is asked.");
+        String[] sorts = {"p", "v", "s", "c", "m"};
+        int[] sizeBegins = {11, 12, 11, 13, 14};
+        int[] markBegins = {21, 24, 22, 23, 23};
+        for (int one = 0; one < 5; one++) {
+            for (int sort = 0; sort < 5; sort++) {
+                StringBuilder text = new StringBuilder("k12,0,0;");
+                for (int i = 0; i < 5; i++) {
+                    text.append(sorts[i == one ? sort : (sort + 1) % 5]).append("3,4;");
+                }
+                KeyDrift x = Check.hall(text.toString());
+                Check.due("kind", x.kind(one), sort + 1);
+                Check.due("as what it is", x.as(one, sort + 1), one);
+                x.ask(one, 0);
+                Check.due("SIZE begins", x.trace(0), sizeBegins[sort]);
+                x.ask(one, 1);
+                Check.due("MARK begins", x.trace(0), markBegins[sort]);
+            }
+        }
     }
 
     private static void askRefused() {

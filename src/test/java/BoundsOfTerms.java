@@ -8,6 +8,7 @@ final class BoundsOfTerms {
     static void all() {
         calls();
         fractions();
+        sets();
         numbers();
         badAheadOfState();
         badAheadOfFull();
@@ -55,6 +56,27 @@ final class BoundsOfTerms {
         Check.due("0 of no night", x.thunderOdds(1, 5, 0, 1), 1);
         Check.due("1 above", x.thunderOdds(0, 0, 6, 0), 1);
         Check.due("1 is 1 by 1", x.thunderOdds(0, 0, 6, 1), 1);
+    }
+
+    /** Who is in a set has the bit of its number: bit 0 of number 0, bit 23 of number 23. */
+    private static void sets() {
+        Document.says("Terms", "Sets are bits.");
+        KeyDrift x = Check.hall("k12,1,0;ta;p0,1;p11,1;v10,1;");
+        Check.due("NIGHTS 0 and 12", x.nightsOf(0, 24), 1 | 1 << 12);
+        Check.due("NIGHTS 11 and 23", x.nightsOf(1, 24), 1 << 11 | 1 << 23);
+        Check.due("lessons for NIGHT 2, of PUPIL 2", x.lessons(1 << 2, 1), 1 << 2);
+        Check.due("no lessons for NIGHTS 0, 11, 23", x.lessons(1 | 1 << 11 | 1 << 23, 1), 0);
+        x.row(0, 0, 4);
+        x.set(0, 1, 11);
+        x.set(0, 3, 3);
+        Check.due("SHIFT 11", x.struck(0, 0, 1, 0), 1 << 11);
+        Check.due("SHIFTS 3 and 11", x.struck(0, 0, 2, 1), 1 << 3 | 1 << 11);
+        Check.due("all SHIFTS", x.struck(0, 0, 1, 1), (1 << 12) - 1);
+        x.set(0, 0, 0);
+        Check.due("KINDS 1 and 4", x.who(0, 0, 0, 0), 1 << 1 | 1 << 4);
+        KeyDrift y = Check.hall("k12,6,0;");
+        Check.due("the least set of one string and its like", y.chords(1), 1 | 1 << 6);
+        Check.due("all strings", y.chords(63), (1 << 12) - 1);
     }
 
     private static void numbers() {

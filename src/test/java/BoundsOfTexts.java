@@ -58,7 +58,7 @@ final class BoundsOfTexts {
     }
 
     private static void howManyBytes() {
-        Document.says("Terms 1", "THE TAPE has at most 120 bytes, that come one by one");
+        Document.says("Terms 1", "TEXTS: THE TAPE has at most 120 bytes, that come one by one");
         Document.says("Promise 6", "A byte (0 to 255) comes behind the tape: how many it has.");
         KeyDrift x = new KeyDrift();
         Check.due("none", x.count(8), 0);

@@ -1,4 +1,4 @@
-/** Each sentence of the document that names a boundary, by a test of its own. */
+/** Each sentence of the document, at the boundaries that it names, by a test of its own. */
 public final class BoundsTest {
     public static void main(String[] args) {
         BoundsOfTerms.all();

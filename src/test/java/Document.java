@@ -1,23 +1,24 @@
 import java.io.IOException;
 import java.nio.file.Files;
 import java.nio.file.Path;
+import java.util.ArrayList;
 import java.util.LinkedHashMap;
+import java.util.List;
 import java.util.Map;
 import java.util.regex.Matcher;
 import java.util.regex.Pattern;
 
 /**
- * The document's own words. A test of a boundary names the sentence that it holds the class to;
- * at the end every sentence that names a boundary must have been named by a test.
+ * The document's own words. A test names the sentence that it holds the class to; at the end every
+ * sentence of the terms and the promises must have been named by a test.
  */
 final class Document {
     private static final Path TEXT = Path.of("..", "shared", "DOC.md");
     private static final Pattern PART = Pattern.compile("======== (\\d) (.*)");
     private static final Pattern PROMISE = Pattern.compile("## (Promise \\d+): .*");
-    /** Words by which a boundary is told. */
-    private static final Pattern BOUNDARY = Pattern.compile("\\b(BAD|STATE|FULL|NONE|NULL|PLACE|SIZE|STORE|KIND|most"
-        + "|least|lowest|below|above|beyond|less|more|ahead|behind|none|first|oldest|latest|empty|missing|fewer|fewest"
-        + "|left over|in place|too|yet|nothing|all stays|as it was|\\d+ to \\d+|\\d+ \\.\\. \\d+|0 on|[0-9])\\b");
+    /** A promise begins with its call, which FaceTest holds the class to. */
+    private static final Pattern HEAD = Pattern.compile("`([^`]*)`: (.*)");
+    private static final Pattern WORD = Pattern.compile("\\w");
     private static final char SAID = '\n';
 
     private static Map<String, StringBuilder> unsaid;
@@ -44,7 +45,7 @@ final class Document {
         }
     }
 
-    /** Fails for each part of the document with a boundary that no test has named. */
+    /** Fails for each part of the document with words that no test has named. */
     static void endOfTests() {
         Check.sentence = "";
         if (!Files.exists(TEXT)) {
@@ -53,10 +54,36 @@ final class Document {
         }
         for (Map.Entry<String, StringBuilder> part : parts().entrySet()) {
             for (String rest : part.getValue().toString().split("\n")) {
-                Matcher boundary = BOUNDARY.matcher(rest);
-                Check.holds("no test names this of " + part.getKey() + ": " + rest.trim(), !boundary.find());
+                Matcher word = WORD.matcher(rest);
+                Check.holds("no test names this of " + part.getKey() + ": " + rest.trim(), !word.find());
             }
         }
+    }
+
+    /** The lines of the public face; none, if there is no document. */
+    static List<String> face() {
+        List<String> face = new ArrayList<>();
+        boolean isFace = false;
+        for (String line : lines()) {
+            if (line.startsWith("```")) {
+                isFace = line.equals("```java");
+            } else if (isFace) {
+                face.add(line.trim());
+            }
+        }
+        return face;
+    }
+
+    /** The calls that the promises begin with, in their order; none, if there is no document. */
+    static List<String> heads() {
+        List<String> heads = new ArrayList<>();
+        for (String line : lines()) {
+            Matcher head = HEAD.matcher(line);
+            if (head.matches()) {
+                heads.add(head.group(1));
+            }
+        }
+        return heads;
     }
 
     private static String whole(String part) {
@@ -83,18 +110,29 @@ final class Document {
             } else if (isPart.matches()) {
                 part = "Terms " + isPart.group(1);
                 add(parts, part, isPart.group(2));
-            } else if (!part.isEmpty() && !line.startsWith("Ahead of the calls") && !line.startsWith("A key to the left")) {
-                add(parts, part, line);
+            } else if (!part.isEmpty() && isTested(line)) {
+                Matcher head = HEAD.matcher(line);
+                add(parts, part, head.matches() ? head.group(2) : line);
             }
         }
         return parts;
+    }
+
+    /** All but the marks of a block, the headings of the interface, and the summary, which Terms tell at length. */
+    private static boolean isTested(String line) {
+        boolean isHeading = line.startsWith("Ahead of the calls");
+        boolean isSummary = line.startsWith("A key to the left");
+        return !line.startsWith("```") && !isHeading && !isSummary;
     }
 
     private static void add(Map<String, StringBuilder> parts, String part, String line) {
         parts.computeIfAbsent(part, key -> new StringBuilder()).append(line).append(SAID);
     }
 
-    private static Iterable<String> lines() {
+    private static List<String> lines() {
+        if (!Files.exists(TEXT)) {
+            return List.of();
+        }
         try {
             return Files.readAllLines(TEXT);
         } catch (IOException e) {

@@ -1,7 +1,11 @@
+import java.io.IOException;
 import java.lang.reflect.Field;
 import java.lang.reflect.Method;
 import java.lang.reflect.Modifier;
+import java.nio.file.Files;
+import java.nio.file.Path;
 import java.util.Arrays;
+import java.util.List;
 import java.util.TreeSet;
 
 /** The public face, the constants, promise 1 (a new object). */
@@ -17,8 +21,9 @@ public final class FaceTest {
         "int restore(int)", "int kind(int)", "int as(int,int)", "int ask(int,int)", "int trace(int)",
         "int count(int)", "int status()"};
 
-    public static void main(String[] args) {
+    public static void main(String[] args) throws IOException {
         methods();
+        document();
         fieldsAndClasses();
         newObject();
         Check.end();
@@ -47,6 +52,24 @@ public final class FaceTest {
                     !isPrivate || !names.contains(method.getName()));
             }
         }
+    }
+
+    /** The class has each line of the document's face, and each call that a promise begins with. */
+    private static void document() throws IOException {
+        String text = Files.readString(Path.of("src/main/java/KeyDrift.java"));
+        List<String> face = Document.face();
+        for (String line : face) {
+            boolean isCall = line.contains("(");
+            String wanted = isCall ? line.replace(";", " {") : line;
+            Check.holds("the class says: " + wanted, text.contains(wanted));
+        }
+        List<String> heads = Document.heads();
+        for (String head : heads) {
+            Check.holds("the class says: " + head, text.contains("public " + head + " {"));
+            Check.holds("the face says: " + head, face.contains("public " + head + ";"));
+        }
+        Check.holds("a promise for the constructor and each call: " + heads.size(),
+            heads.isEmpty() || heads.size() == FACE.length + 1);
     }
 
     private static String told(Method method) {
