@@ -1,4 +1,6 @@
 import java.io.IOException;
+import java.lang.reflect.Field;
+import java.lang.reflect.Modifier;
 import java.nio.file.Files;
 import java.nio.file.Path;
 import java.util.List;
@@ -12,7 +14,8 @@ public final class LanguageTest {
         "Random", "Thread"};
     private static final List<String> IMPORTS = List.of("java.util.Arrays", "java.util.ArrayList", "java.util.List",
         "java.util.Iterator");
-    private static final int LONGEST_METHOD = 60, MOST_PARAMETERS = 7, MOST_CLASSES = 12, METHODS_OF_FACE = 38;
+    private static final int LONGEST_METHOD = 60, MOST_PARAMETERS = 7, MOST_CLASSES = 12, MOST_FIELDS = 20,
+        METHODS_OF_FACE = 38;
 
     public static void main(String[] args) throws IOException {
         String text = Files.readString(Path.of("src/main/java/KeyDrift.java"));
@@ -30,7 +33,21 @@ public final class LanguageTest {
         methods(code);
         Matcher classes = Pattern.compile("\\bclass\\b").matcher(code);
         Check.holds("twelve classes at most", classes.results().count() <= MOST_CLASSES);
+        fields(KeyDrift.class);
+        for (Class<?> inside : KeyDrift.class.getDeclaredClasses()) {
+            fields(inside);
+        }
         Check.end();
+    }
+
+    private static void fields(Class<?> one) {
+        int ofObjects = 0;
+        for (Field field : one.getDeclaredFields()) {
+            boolean isStatic = Modifier.isStatic(field.getModifiers());
+            Check.holds("static, so final: " + field, !isStatic || Modifier.isFinal(field.getModifiers()));
+            ofObjects += isStatic ? 0 : 1;
+        }
+        Check.holds("fields of " + one + ": " + ofObjects, ofObjects <= MOST_FIELDS);
     }
 
     private static void imports(String code) {
